@@ -19,6 +19,7 @@ public final class PromisesTest {
         wipe();
         faultOfThePan();
         faultOfRules();
+        faultOfFullTexts();
         pan();
         afterWarmth();
         afterPressAndLeaks();
@@ -146,8 +147,17 @@ public final class PromisesTest {
         layAll(x, 0, 0, 0, 20, 1, 0);
         x.read(0, 1);
         x.read(0, 2);
+        due("3: place 3", x.read(0, 3), 1);
+        due("3: water of an item is the first of four", readWater(), 7);
         due("3: above the one of its place", x.after(1, 1, 0), 25);
         due("3: alone in another place", x.after(2, 1, 0), 49);
+    }
+
+    private static int readWater() {
+        PopPan x = new PopPan();
+        layAll(x, 0, 2, 1, 2, 3, 4, 7, 6, 5, 4);
+        x.read(0, 0);
+        return x.change(1, 0, 0);
     }
 
     private static void change() {
@@ -322,6 +332,23 @@ public final class PromisesTest {
         }
     }
 
+    /** Texts that fill their room, of which nothing may be read behind the end. */
+    private static void faultOfFullTexts() {
+        String pan = "h1x1;".repeat(12);
+        fault(0, pan, 60);
+        fault(0, pan.substring(0, 59) + "s", 59);
+        fault(0, pan.substring(0, 55) + ";h1x1", 55);
+        fault(0, "s;" + pan.substring(0, 55) + "s;s", NONE);
+        fault(0, "s;" + pan.substring(0, 55) + "h1x", 60);
+        fault(0, "s;s;s;" + pan.substring(0, 50) + "h1x1", NONE);
+        String rule = "g9|".repeat(10);
+        fault(1, rule, 30);
+        fault(2, rule.substring(0, 24) + "t100|g", 30);
+        fault(3, rule.substring(0, 24) + "t100|9", 29);
+        fault(3, rule.substring(0, 21) + "t99|t200|", 30);
+        fault(3, rule.substring(0, 21) + "t099|t200", NONE);
+    }
+
     private static void pan() {
         PopPan x = new PopPan();
         Check.type(x, 0, "s;h7x2;l;s;s;h0x1;h8x1;o;s");
@@ -350,6 +377,9 @@ public final class PromisesTest {
         due("10: second 199", x.pan(199, 0), 3);
         due("10: nothing behind 199 comes", x.pan(199, 1) + x.pan(199, 2), 0);
         due("10: its seconds", x.count(5), 396);
+        Check.retype(x, 0, "h1x99;h2x99;h3x2;s;l");
+        due("10: shaken in 200, which is none", x.pan(199, 1), 0);
+        due("10: a lid in 200, which is none", x.pan(199, 2), 0);
         Check.retype(x, 0, "h1x99;h2x99;h3x1;s;l");
         due("10: shaken in 199", x.pan(199, 1), 1);
         due("10: a lid in 199", x.pan(199, 2), 1);
@@ -375,6 +405,8 @@ public final class PromisesTest {
         for (int t = 0; t < withLid.length; t++) {
             due("11: WARMTH with the lid after " + t, x.after(0, t, 0), withLid[t]);
         }
+        Check.retype(x, 0, "l;h99x99");
+        due("11: a 64th of 388", x.after(0, 4, 0), 382);
         Check.retype(x, 0, "h99x1;h0x1");
         due("11: it cools", x.after(0, 2, 0), 93);
         due("11: it cools behind the end", x.after(0, 3, 0), 91);
@@ -650,6 +682,19 @@ public final class PromisesTest {
         due("15: OPEN comes first", x.even(200, 1), evenBest(x, 200, 1));
         due("15: then BURNT", x.even(200, 2), evenBest(x, 200, 2));
         due("15: then the least", x.even(200, 0), evenBest(x, 200, 0));
+        evenRow();
+    }
+
+    private static void evenRow() {
+        PopPan x = new PopPan();
+        for (int g = 0; g < 4; g++) {
+            x.grain(0, 20 + 9 * g, 9 - g, 3, g);
+        }
+        for (int t = 30; t <= 60; t += 15) {
+            due("15: a row, OPEN after " + t, x.even(t, 1), evenBest(x, t, 1));
+            due("15: a row, BURNT after " + t, x.even(t, 2), evenBest(x, t, 2));
+            due("15: a row, the heat for " + t, x.even(t, 0), evenBest(x, t, 0));
+        }
     }
 
     /** The same by pans that are typed heat by heat. */
@@ -732,6 +777,13 @@ public final class PromisesTest {
         due("17: LARGE of a greater one", x.air(6, 1), 109);
         due("17: AIR stays", x.set(0, 10), 10);
         due("17: after 3", x.air(3, 1), 0);
+        due("17: after 1", x.air(1, 0), 0);
+        // Press 84, then two or so more each second to 178, which 98 still lets go; with 99 it is 358 a second later.
+        x.change(0, 0, 80);
+        x.change(0, 1, 12);
+        Check.retype(x, 0, "h50x3;h7x23;h99x1");
+        due("17: the most", x.air(27, 0), 99);
+        due("17: LARGE with the most", x.air(27, 1), 233);
     }
 
     private static void shaken() {
@@ -742,6 +794,7 @@ public final class PromisesTest {
         due("18: what 2", x.shaken(1, 2), BAD);
         due("18: no grains", x.shaken(200, 0), NONE);
         due("18: no grains, OPEN", x.shaken(200, 1), 0);
+        due("18: one second", x.shaken(1, 1), 0);
         Check.type(x, 0, "h50x5");
         x.grain(0, 0, 20, 1, 0);
         x.grain(0, 40, 10, 3, 0);
@@ -789,6 +842,7 @@ public final class PromisesTest {
         due("20: what -1", x.sieved(1, 1, -1), BAD);
         due("20: what 4", x.sieved(1, 1, 4), BAD);
         due("20: none", x.sieved(1, 200, 2), 0);
+        due("20: one second", x.sieved(9, 1, 3), 0);
         x.grain(0, 0, 20, 2, 0);
         x.grain(0, 40, 10, 3, 0);
         x.grain(0, 0, 20, 9, 0);
@@ -892,6 +946,7 @@ public final class PromisesTest {
         due("24: 103 by 256", x.span(5, 2, 1, 103, 0), 2);
         due("24: 102 by 256, the greatest", x.span(5, 2, 1, 102, 1), 4);
         due("24: 103 by 256, the greatest", x.span(5, 2, 1, 103, 1), 3);
+        due("24: 0 by 256", x.span(5, 2, 1, 0, 0), 1);
         due("24: all were tried", x.span(30, 30, 17, 255, 0), 17);
         due("24: all were tried, the greatest", x.span(30, 30, 17, 255, 1), 17);
     }
@@ -938,6 +993,12 @@ public final class PromisesTest {
         x.grain(1, 0, 10, 3, 0);
         x.heard(1, 100);
         due("26: 200 for one that stays", x.fits(4), 206);
+        x.empty();
+        x.grain(0, 40, 10, 3, 0);
+        x.heard(0, 5);
+        due("26: the strongest, least", x.fits(0), 15);
+        due("26: the strongest, greatest", x.fits(1), 15);
+        due("26: the strongest alone", x.fits(2), 1);
     }
 
     private static void sheet() {
@@ -1030,6 +1091,9 @@ public final class PromisesTest {
         PopPan x = new PopPan();
         due("31: sheet -1", x.copy(-1, 0, 0, 0, 0), BAD);
         due("31: sheet 4", x.copy(0, 0, 4, 0, 0), BAD);
+        due("31: from sheet 4", x.copy(4, 0, 0, 0, 0), BAD);
+        due("31: to sheet -1", x.copy(0, 0, -1, 0, 0), BAD);
+        due("31: sheet 3", x.copy(3, 0, 3, 0, 0), NULL);
         x.sheet(0, 1, 6);
         due("31: the other is LOST", x.copy(0, 0, 1, 0, 0), NULL);
         due("31: the first is LOST", x.copy(1, 0, 0, 0, 0), NULL);
@@ -1084,9 +1148,11 @@ public final class PromisesTest {
                 due("32: form " + form + ", item " + i, x.get(form, form, i), heard[i]);
             }
         }
+        x.lay(2, 2, 0, 6);
         x.lay(2, 2, 3, 7);
         due("32: three to 199", x.write(197, 2), 3);
-        due("32: those are silent", x.get(2, 2, 1), 0);
+        due("32: those are silent", x.get(2, 2, 0), 0);
+        due("32: 199 alone", x.write(199, 2), 1);
         due("32: the fourth stays", x.get(2, 2, 3), 7);
         x.sheet(3, 0, 0);
         due("32: no items", x.write(0, 3), 0);
@@ -1158,6 +1224,7 @@ public final class PromisesTest {
         PopPan x = five();
         due("34: five", x.digest(), spelled(x));
         x.heard(0, 4);
+        due("34: one HEARD", x.digest(), spelled(x));
         x.heard(2, 3);
         due("34: heard ones", x.digest(), spelled(x));
         Check.type(x, 1, "g2|t9");
