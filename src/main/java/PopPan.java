@@ -31,8 +31,8 @@ public final class PopPan {
     private final Text[] texts = new Text[TEXTS];
     private final Heating heating = new Heating();
     private final Rule[] rules = new Rule[RULES];
-    private final Batch batch = new Batch(grains);
-    private final Batch trial = new Batch(grains);
+    private final Batch batch = new Batch();
+    private final Batch trial = new Batch();
     private final Evens evens = new Evens();
     private final Hearing hearing = new Hearing();
     private final Sheet[] sheets = new Sheet[SHEETS];
@@ -205,7 +205,7 @@ public final class PopPan {
         int bestAir = NONE;
         int most = NONE;
         for (int a = 0; a <= AIRS; a++) {
-            batch.fill(settings[STRENGTH], a);
+            batch.fill(grains, settings[STRENGTH], a);
             batch.settle(heating, t);
             int large = batch.largeAt(t);
             if (large > most) {
@@ -491,7 +491,7 @@ public final class PopPan {
     }
 
     private void fillPan() {
-        batch.fill(settings[STRENGTH], settings[AIR]);
+        batch.fill(grains, settings[STRENGTH], settings[AIR]);
     }
 
     private void cook(int t) {
@@ -576,7 +576,7 @@ public final class PopPan {
     private void tryStrengths() {
         hearing.begin();
         for (int strength = SETTING_LEAST[STRENGTH]; strength <= SETTING_MOST[STRENGTH]; strength++) {
-            batch.fill(strength, settings[AIR]);
+            batch.fill(grains, strength, settings[AIR]);
             batch.settle(heating, SECONDS);
             hearing.judge(strength, batch);
         }
@@ -880,9 +880,11 @@ public final class PopPan {
         }
     }
 
-    /** Grains that are heated; what they were at each earlier second can still be asked. */
+    /** Grains that are heated; how many had gone or burnt by each earlier second can still be asked. */
     private static final class Batch {
-        private final Grains grains;
+        private final int[] skin = new int[GRAINS];
+        private final int[] size = new int[GRAINS];
+        private final int[] crack = new int[GRAINS];
         private final int[] warmth = new int[GRAINS];
         private final int[] water = new int[GRAINS];
         private final int[] press = new int[GRAINS];
@@ -891,34 +893,38 @@ public final class PopPan {
         private final int[] large = new int[GRAINS];
         private final int[] rows = new int[PLACES * GRAINS];
         private final int[] heights = new int[PLACES];
+        private int number = 0;
         private int strength = 0;
         private int air = 0;
         private int whole = 0;
         private int gone = 0;
         private boolean risen = false;
 
-        Batch(Grains told) {
-            grains = told;
-        }
-
-        void fill(int newStrength, int newAir) {
+        void fill(Grains told, int newStrength, int newAir) {
+            number = told.number;
             strength = newStrength;
             air = newAir;
-            whole = grains.number;
+            whole = number;
             gone = 0;
             risen = false;
             Arrays.fill(heights, 0);
-            for (int g = 0; g < grains.number; g++) {
+            for (int g = 0; g < number; g++) {
+                skin[g] = told.trait(g, SKIN);
+                size[g] = told.trait(g, SIZE);
+                crack[g] = told.trait(g, CRACK);
                 warmth[g] = 0;
-                water[g] = grains.trait(g, WATER);
+                water[g] = told.trait(g, WATER);
                 press[g] = 0;
                 state[g] = WHOLE;
                 ended[g] = NONE;
                 large[g] = 0;
-                int place = grains.places[g];
-                rows[place * GRAINS + heights[place]] = g;
-                heights[place]++;
+                putOnTop(g, told.places[g]);
             }
+        }
+
+        private void putOnTop(int g, int place) {
+            rows[place * GRAINS + heights[place]] = g;
+            heights[place]++;
         }
 
         void takeOut(int g) {
@@ -928,11 +934,15 @@ public final class PopPan {
         }
 
         void become(Batch other) {
+            number = other.number;
             strength = other.strength;
             air = other.air;
             whole = other.whole;
             gone = other.gone;
             risen = other.risen;
+            System.arraycopy(other.skin, 0, skin, 0, GRAINS);
+            System.arraycopy(other.size, 0, size, 0, GRAINS);
+            System.arraycopy(other.crack, 0, crack, 0, GRAINS);
             System.arraycopy(other.warmth, 0, warmth, 0, GRAINS);
             System.arraycopy(other.water, 0, water, 0, GRAINS);
             System.arraycopy(other.press, 0, press, 0, GRAINS);
@@ -972,7 +982,7 @@ public final class PopPan {
                 }
                 warmRow(place, heat, lid ? 64 : 32);
             }
-            for (int g = 0; g < grains.number; g++) {
+            for (int g = 0; g < number; g++) {
                 if (state[g] == WHOLE) {
                     strain(g);
                 }
@@ -1021,16 +1031,16 @@ public final class PopPan {
         private void strain(int g) {
             int wet = water[g];
             press[g] = warmth[g] > 100 ? (warmth[g] - 100) * wet / 40 : 0;
-            int hold = Math.max(1, grains.trait(g, SKIN) - wet / 20);
+            int hold = Math.max(1, skin[g] - wet / 20);
             int push = press[g] - air;
             if (push >= strength * hold) {
                 end(g, OPEN);
-                large[g] = grains.trait(g, SIZE) * push / 10;
+                large[g] = size[g] * push / 10;
                 risen = true;
             } else if (warmth[g] > 250) {
                 end(g, BURNT);
             } else {
-                water[g] = Math.max(0, wet - press[g] * grains.trait(g, CRACK) / 100);
+                water[g] = Math.max(0, wet - press[g] * crack[g] / 100);
             }
         }
 
@@ -1063,7 +1073,7 @@ public final class PopPan {
 
         int openAt(int t) {
             int many = 0;
-            for (int g = 0; g < grains.number; g++) {
+            for (int g = 0; g < number; g++) {
                 many += isOpenAt(g, t) ? 1 : 0;
             }
             return many;
@@ -1071,7 +1081,7 @@ public final class PopPan {
 
         int burntAt(int t) {
             int many = 0;
-            for (int g = 0; g < grains.number; g++) {
+            for (int g = 0; g < number; g++) {
                 many += state[g] == BURNT && ended[g] < t ? 1 : 0;
             }
             return many;
@@ -1079,7 +1089,7 @@ public final class PopPan {
 
         int wholeAt(int t) {
             int inPan = 0;
-            for (int g = 0; g < grains.number; g++) {
+            for (int g = 0; g < number; g++) {
                 inPan += state[g] != OUTSIDE ? 1 : 0;
             }
             return inPan - openAt(t) - burntAt(t);
@@ -1087,7 +1097,7 @@ public final class PopPan {
 
         int largeAt(int t) {
             int sum = 0;
-            for (int g = 0; g < grains.number; g++) {
+            for (int g = 0; g < number; g++) {
                 sum += isOpenAt(g, t) ? large[g] : 0;
             }
             return sum;
@@ -1095,7 +1105,7 @@ public final class PopPan {
 
         int brownedAt(int t, int brown) {
             int many = 0;
-            for (int g = 0; g < grains.number; g++) {
+            for (int g = 0; g < number; g++) {
                 many += isOpenAt(g, t) && t - ended[g] > brown ? 1 : 0;
             }
             return many;
@@ -1103,7 +1113,7 @@ public final class PopPan {
 
         int goneIn(int second) {
             int many = 0;
-            for (int g = 0; g < grains.number; g++) {
+            for (int g = 0; g < number; g++) {
                 many += state[g] == OPEN && ended[g] == second ? 1 : 0;
             }
             return many;

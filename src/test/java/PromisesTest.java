@@ -527,6 +527,24 @@ public final class PromisesTest {
         due("11: shaken twice", x.after(2, 1, 0), 49);
         due("11: and once more", x.after(3, 2, 0), 73);
         risingOnes();
+        fullRow();
+    }
+
+    /** All twelve in the last place, turned around more than once. */
+    private static void fullRow() {
+        PopPan x = new PopPan();
+        for (int g = 0; g < 12; g++) {
+            x.grain(3, 0, 20, 1, 0);
+        }
+        Check.type(x, 0, "s;".repeat(14) + "h99x1");
+        due("11: the third is the lowest", x.after(2, 1, 0), 96);
+        due("11: the fourth is above it", x.after(3, 1, 0), 48);
+        due("11: the first but one to the top", x.after(1, 1, 0), 0);
+        x.empty();
+        for (int g = 0; g < 12; g++) {
+            x.grain(g / 11, 0, 20, 1, 0);
+        }
+        due("11: another place is turned alone", x.after(11, 1, 0), 96);
     }
 
     private static void risingOnes() {
@@ -592,6 +610,12 @@ public final class PromisesTest {
         stopsAt(x, "t150|g99|n99", 104);
         stopsAt(x, "g9|g3|g5", 8);
         stopsAt(x, "n3|t4", 4);
+        PopPan y = new PopPan();
+        Check.type(y, 0, "h0x97;h50x99");
+        y.grain(0, 40, 10, 3, 0);
+        stopsAt(y, "n1", 102);
+        stopsAt(y, "g98", 200);
+        stopsAt(y, "g99", 200);
         due("13: rule -1", x.stop(-1, 0), ANY_BAD);
         due("13: rule 3", x.stop(3, 0), ANY_BAD);
         due("13: what -1", x.stop(0, -1), ANY_BAD);
@@ -683,6 +707,7 @@ public final class PromisesTest {
         due("15: then BURNT", x.even(200, 2), evenBest(x, 200, 2));
         due("15: then the least", x.even(200, 0), evenBest(x, 200, 0));
         evenRow();
+        evenBurnsFewer();
     }
 
     private static void evenRow() {
@@ -695,6 +720,21 @@ public final class PromisesTest {
             due("15: a row, BURNT after " + t, x.even(t, 2), evenBest(x, t, 2));
             due("15: a row, the heat for " + t, x.even(t, 0), evenBest(x, t, 0));
         }
+    }
+
+    /** Heat 66 opens as many as 68, but burns one more, and 67 does no better. */
+    private static void evenBurnsFewer() {
+        PopPan x = new PopPan();
+        x.grain(0, 10, 12, 2, 2);
+        x.grain(0, 70, 14, 3, 9);
+        x.grain(0, 1, 6, 2, 6);
+        x.grain(0, 0, 4, 5, 7);
+        due("15: a greater heat that burns fewer", x.even(12, 0), 68);
+        due("15: OPEN by it", x.even(12, 1), 1);
+        due("15: BURNT by it", x.even(12, 2), 1);
+        Check.type(x, 0, "h66x99");
+        due("15: OPEN by less", x.sieved(1, 12, 0), 1);
+        due("15: BURNT by less", x.sieved(1, 12, 3), 2);
     }
 
     /** The same by pans that are typed heat by heat. */
@@ -784,6 +824,12 @@ public final class PromisesTest {
         Check.retype(x, 0, "h50x3;h7x23;h99x1");
         due("17: the most", x.air(27, 0), 99);
         due("17: LARGE with the most", x.air(27, 1), 233);
+        // The same for 100, which is none: 99 lets 180 go, as 9 times 9 is 81.
+        x.set(1, 9);
+        x.change(0, 1, 13);
+        Check.retype(x, 0, "h50x3;h7x24;h99x1");
+        due("17: none above 99", x.air(28, 0), 4);
+        due("17: LARGE by none above 99", x.air(28, 1), 77);
     }
 
     private static void shaken() {
@@ -1226,6 +1272,11 @@ public final class PromisesTest {
         x.heard(0, 4);
         due("34: one HEARD", x.digest(), spelled(x));
         x.heard(2, 3);
+        Check.retype(x, 0, "h0x95;h50x99");
+        due("34: one goes in second 99", x.digest(), spelled(x));
+        Check.retype(x, 0, "h0x96;h50x99");
+        due("34: one goes in second 100", x.digest(), spelled(x));
+        Check.retype(x, 0, "h50x99");
         due("34: heard ones", x.digest(), spelled(x));
         Check.type(x, 1, "g2|t9");
         Check.type(x, 2, "n0");
