@@ -229,6 +229,12 @@ public final class EdgesOfChoiceTest {
         due("17: so it is by set()", y.sieved(1, 27, 1), 233);
         y.set(0, 98);
         Check.holds("17: less by AIR 98", y.sieved(1, 27, 1) < 233);
+        // HOLD 9 by STRENGTH 9: PRESS 180 goes with AIR 99; a 100, which is none, would keep it for more.
+        PopPan z = Pans.with("h50x3;h7x24;h99x1");
+        z.grain(0, 80, 13, 9, 0);
+        z.set(1, 9);
+        due("17: none above 99", z.air(28, 0), 4);
+        due("17: LARGE by none above 99", z.air(28, 1), 77);
     }
 
     /** 17: by set() of each AIR, for several t. */
@@ -307,6 +313,10 @@ public final class EdgesOfChoiceTest {
             72, 17, 5, 0, 34, 3, 5, 1, 90, 9, 5, 0), 2);
         due("18: of ten seconds", shakenByTrying("ten", new int[] {9, 68}, new int[] {6, 4}, 10,
             50, 18, 5, 3, 66, 12, 5, 0), 9);
+        due("18: one went in the second before", shakenByTrying("one has risen", new int[] {54, 44}, new int[] {4, 5}, 9,
+            10, 1, 5, 0, 0, 1, 5, 3, 40, 7, 5, 0), 4);
+        due("18: one is still WHOLE then", shakenByTrying("one is burnt", new int[] {78, 77}, new int[] {2, 5}, 7,
+            0, 1, 5, 6, 10, 4, 5, 0), 5);
         due("18: at once", shakenByTrying("a dry one below", new int[] {50}, new int[] {5}, 5, 0, 20, 1, 0, 40, 10, 3, 0), 0);
     }
 
@@ -333,6 +343,10 @@ public final class EdgesOfChoiceTest {
         due("18: one of two, either way", x.shaken(5, 0), NONE);
         due("18: one of two, OPEN", x.shaken(5, 1), 1);
         due("18: one second can open none", x.shaken(1, 0), NONE);
+        x.grain(1, 0, 20, 1, 0);
+        x.grain(2, 0, 20, 1, 0);
+        due("18: some stay for all 200", x.shaken(200, 0), NONE);
+        due("18: some stay for all 200, OPEN", x.shaken(200, 1), 1);
     }
 
     /** 18: 'SHAKEN once more' than THE PAN is shaken in that SECOND. */

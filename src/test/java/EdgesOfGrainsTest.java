@@ -21,6 +21,7 @@ public final class EdgesOfGrainsTest {
         emptyOnes();
         heardIsForgotten();
         whatItWas();
+        fiveHundredAndTwelveCalls();
         Check.end();
     }
 
@@ -242,6 +243,26 @@ public final class EdgesOfGrainsTest {
         x.grain(0, 40, 10, 3, 0);
         due("5: still none", x.fits(3), Pans.NOT);
         due("5: the first again", x.heard(0, 5), 1);
+    }
+
+    /** 'An object is used for at most 512 calls': the 512th still answers as the first did. */
+    private static void fiveHundredAndTwelveCalls() {
+        PopPan x = new PopPan();
+        int calls = 0;
+        for (int i = 0; i < 3; i++) {
+            x.grain(i, 40, 10, 3, 0);
+            calls++;
+        }
+        String pan = "h50x99";
+        Check.type(x, 0, pan);
+        calls += pan.length();
+        long first = x.digest();
+        calls++;
+        while (calls < 511) {
+            due("11: call " + calls, x.after(calls % 3, 200, 4), 4);
+            calls++;
+        }
+        due("34: call 512", x.digest(), first);
     }
 
     /** 6: each setting is kept by itself. */

@@ -58,6 +58,10 @@ public final class EdgesOfHeatTest {
         for (int what = 0; what <= 5; what++) {
             due("11: after 0 seconds, " + what, x.after(0, 0, what), first[what]);
         }
+        for (int what = 0; what <= 5; what++) {
+            due("11: it went in second 1", x.after(0, 200, 4), 1);
+            due("11: after 0 seconds, asked behind 200, " + what, x.after(0, 0, what), first[what]);
+        }
         int[] dry = {0, 0, 0, WHOLE, NONE, 0};
         PopPan cold = new PopPan();
         cold.grain(3, 0, 20, 9, 9);
@@ -389,6 +393,25 @@ public final class EdgesOfHeatTest {
             for (int g = 0; g < 6; g++) {
                 int height = Math.floorMod(g / 2 - times, 3);
                 due("11: grain " + g + " shaken " + times + " times", x.after(g, 1, WARMTH), first[height]);
+            }
+        }
+        fullRows();
+    }
+
+    /** All twelve in one place, shaken once, once around, and once more. */
+    private static void fullRows() {
+        int[] row = {96, 48, 24, 12, 6, 3, 1, 0, 0, 0, 0, 0};
+        int[] shaken = {1, 11, 12, 13};
+        for (int place = 0; place <= 3; place++) {
+            for (int times : shaken) {
+                PopPan x = Pans.with("s;".repeat(times) + "h99x1");
+                for (int g = 0; g < 12; g++) {
+                    x.grain(place, 0, 1, 1, 0);
+                }
+                for (int g = 0; g < 12; g++) {
+                    int height = Math.floorMod(g - times, 12);
+                    due("11: of twelve in " + place + ", shaken " + times + " times", x.after(g, 1, WARMTH), row[height]);
+                }
             }
         }
     }

@@ -333,6 +333,13 @@ public final class EdgesOfJarsTest {
         due("26: not both, the greatest", x.fits(1), NONE);
         due("26: not both, how many", x.fits(2), 0);
         due("26: nothing was HEARD", new PopPan().fits(0), NOT);
+        PopPan y = Pans.with("h50x99");
+        y.grain(0, 0, 20, 1, 0);
+        y.grain(1, 40, 10, 3, 0);
+        y.heard(1, 4);
+        due("26: the GRAIN that was HEARD goes", y.fits(2), 5);
+        y.heard(0, 4);
+        due("26: the other never", y.fits(4), 200);
     }
 
     /** 26: 'of like ones the least' */

@@ -32,6 +32,7 @@ public final class EdgesOfSheetsTest {
         latestFindings();
         digestOfNothing();
         digestThatWraps();
+        digestBySeconds();
         digestChangesNothing();
         Check.end();
     }
@@ -464,6 +465,31 @@ public final class EdgesOfSheetsTest {
             due("34: object " + i + " without grains", all[i].digest(), unwrapped(all[i]).longValue());
         }
         Check.holds("34: it is more than a long", unwrapped(Pans.full()).bitLength() > 64);
+    }
+
+    /** 34: 'after() 100 SECONDS', 'even(60, ..)', 'sieved(3, 100, ..)': what one second more or less would change. */
+    private static void digestBySeconds() {
+        // A grain that goes in second 99 or 100; SIZE 3 is just large enough, SIZE 2 is not.
+        for (int lead = 95; lead <= 96; lead++) {
+            for (int size = 2; size <= 3; size++) {
+                PopPan x = Pans.with("h0x" + lead + ";h50x9");
+                x.grain(0, 40, 10, size, 0);
+                due("34: OPEN after 100", x.after(0, 100, 3), lead == 95 ? 1 : 0);
+                due("34: sieved", x.sieved(3, 100, 0), lead == 95 && size == 3 ? 1 : 0);
+                due("34: by seconds", x.digest(), unwrapped(x).longValue());
+            }
+        }
+        // The even heat for 60 seconds is another one than for 59 here, and another than for 61 there.
+        int[] waters = {65, 60};
+        for (int water : waters) {
+            PopPan x = new PopPan();
+            x.grain(0, 0, 20, 9, 0);
+            x.grain(0, 0, 20, 9, 0);
+            x.grain(0, water, 5, 5, 0);
+            Check.holds("34: unlike even heats", x.even(59, 0) != x.even(61, 0));
+            Check.holds("34: that of 60", x.even(60, 0) == (water == 65 ? x.even(61, 0) : x.even(59, 0)));
+            due("34: by even heat", x.digest(), unwrapped(x).longValue());
+        }
     }
 
     /** 34: asking changes nothing, and neither SHEETS nor findings are part of it. */
