@@ -25,6 +25,8 @@ public final class PopPan {
 
     // Answers that may be any number need refusals beyond every true answer.
     private static final int ANY_NUMBER = -100000;
+    private static final int LEAST_INT = 1 << 31;
+    private static final long LEAST_LONG = 1L << 63;
 
     private final Grains grains = new Grains();
     private final int[] settings = SETTING_FIRST.clone();
@@ -291,7 +293,7 @@ public final class PopPan {
 
     public long cracked(int all, int c, int n, int k, int what) {
         if (isNoTrial(all, n, k) || isOutside(c, 0, all) || isOutside(what, 0, 1)) {
-            return Long.MIN_VALUE - BAD;
+            return LEAST_LONG - BAD;
         }
         long above = ways(all, c, n, k);
         long below = choose(all, n);
@@ -373,12 +375,12 @@ public final class PopPan {
 
     public int get(int s, int form, int i) {
         if (isOutside(s, 0, SHEETS - 1) || isOutside(form, 0, FORMS - 1)) {
-            return Integer.MIN_VALUE;
+            return LEAST_INT;
         }
         int objection = sheets[s].objection(form, i);
         if (objection != 0) {
             latestFinding = objection;
-            return Integer.MIN_VALUE;
+            return LEAST_INT;
         }
         return sheets[s].items[i];
     }

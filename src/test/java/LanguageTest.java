@@ -20,6 +20,11 @@ public final class LanguageTest {
         + "sheet(int,int,int)int lose(int)int lay(int,int,int,int)int get(int,int,int)int copy(int,int,int,int,int)int "
         + "write(int,int)int count(int)int digest()long";
 
+    /** Of the classes of the library these members alone stand in rule 4; of Integer, Long and Math its 'like' ones too. */
+    private static final Set<String> LIBRARY = Set.of("System.arraycopy", "Arrays.copyOf", "Arrays.copyOfRange", "Arrays.fill",
+        "List.of");
+    private static final Set<String> NUMBERS = Set.of("Integer", "Long", "Math");
+
     private LanguageTest() {
     }
 
@@ -28,7 +33,9 @@ public final class LanguageTest {
         constants();
         names();
         nested();
-        words(Files.readString(Path.of("src/main/java/PopPan.java")));
+        String code = withoutRemarks(Files.readString(Path.of("src/main/java/PopPan.java")));
+        words(code);
+        library(code);
         Check.end();
     }
 
@@ -98,8 +105,22 @@ public final class LanguageTest {
         }
     }
 
-    private static void words(String source) {
-        String code = source.replaceAll("(?s)/\\*.*?\\*/", " ").replaceAll("//[^\n]*", " ").replaceAll("'.'", " ");
+    private static String withoutRemarks(String source) {
+        return source.replaceAll("(?s)/\\*.*?\\*/", " ").replaceAll("//[^\n]*", " ").replaceAll("'.'", " ");
+    }
+
+    /** Rule 4: "The library: only what stands here"; of Integer, Long and Math "the static functions", no fields. */
+    private static void library(String code) {
+        Matcher uses = Pattern.compile("\\b([A-Z]\\w*[a-z]\\w*)\\.(\\w+)\\s*(\\(?)").matcher(code);
+        while (uses.find()) {
+            String use = uses.group(1) + "." + uses.group(2);
+            boolean isFunction = uses.group(3).equals("(");
+            Check.holds("stands in rule 4: " + use,
+                isFunction && (LIBRARY.contains(use) || NUMBERS.contains(uses.group(1))));
+        }
+    }
+
+    private static void words(String code) {
         String[] never = {"\\bthrow\\b", "\\bthrows\\b", "\\btry\\b", "\\bcatch\\b", "\\bsynchronized\\b", "\\bassert\\b",
             "->", "::", "\\bstatic\\s*\\{", "\\bnative\\b", "\\bpackage\\b", "Exact\\b", "\\bprotected\\b", "Exception"};
         for (String word : never) {
